@@ -776,6 +776,7 @@ public final class CamelParts {
         long common = 1;
         long all = 0;
         private final long[] weights = new long[MOST_HEIRS];
+        private final long[] rests = new long[MOST_HEIRS];
         private final int[] gets = new int[MOST_HEIRS];
         private final int[] gotBefore = new int[MOST_HEIRS];
         private int heirs = 0;
@@ -883,33 +884,26 @@ public final class CamelParts {
 
         private void giveByRests() {
             giveQuotasLess(0);
-            long last = all;
-            int lastHeir = -1;
+            for (int i = 0; i < heirs; i++) {
+                rests[i] = remainder(camels * weights[i], all);
+            }
             for (int left = camels - given(); left > 0; left--) {
-                int next = nextByRest(last, lastHeir);
-                if (next < 0) {
-                    return;
-                }
-                last = restOf(next);
-                lastHeir = next;
-                gets[next]++;
+                giveByGreatestRest();
             }
         }
 
-        private long restOf(int i) {
-            return remainder(camels * weights[i], all);
-        }
-
-        // Who comes behind him who had the last one, by rests, then by order.
-        private int nextByRest(long last, int lastHeir) {
-            int next = -1;
-            for (int i = 0; i < heirs; i++) {
-                boolean behind = restOf(i) < last || restOf(i) == last && i > lastHeir;
-                if (behind && (next < 0 || restOf(i) > restOf(next))) {
+        // Who has had one more stands behind all others.
+        private void giveByGreatestRest() {
+            int next = 0;
+            for (int i = 1; i < heirs; i++) {
+                if (rests[i] > rests[next]) {
                     next = i;
                 }
             }
-            return next;
+            if (next < heirs) {
+                gets[next]++;
+                rests[next] = -1;
+            }
         }
 
         // By row or odd row nobody has in the end fewer than his quota less 3: all heirs' parts by
@@ -1024,8 +1018,9 @@ public final class CamelParts {
         }
     }
 
-    /** Reads the tape as a text into a draft. */
+    /** Reads the tape as a text into a draft: token by token, by what is awaited. */
     private static final class Script {
+        private static final int A_LINE = 0, AN_UP = 1, A_DOWN = 2, A_HERD = 3, A_SEMICOLON = 4, NOTHING = 5;
         private static final int HEIR_WORD = 4, HERD_WORD = 5;
 
         final Tape tape = new Tape();
@@ -1033,6 +1028,8 @@ public final class CamelParts {
         int lines = 0;
         int flaw = 0;
         int place = 0;
+        private int awaited = NOTHING;
+        private int up = 0;
         private boolean hasHerd = false;
         private boolean hasJudge = false;
 
@@ -1043,23 +1040,50 @@ public final class CamelParts {
             place = 0;
             hasHerd = false;
             hasJudge = false;
+            awaited = A_LINE;
             tape.rewind();
-            advance();
-            for (int i = 0; i < TAPE_BYTES && flaw == 0 && tape.sort != Tape.END; i++) {
-                takeLine();
+            // Each token but the end is a byte or more.
+            for (int t = 0; t <= TAPE_BYTES && awaited != NOTHING; t++) {
+                tape.advance();
+                takeToken();
             }
         }
 
-        private void takeLine() {
+        private void takeToken() {
+            if (tape.sort == Tape.WRONG) {
+                refuse(NO_TOKEN);
+            } else if (awaited == A_SEMICOLON) {
+                takeSemicolon();
+            } else if (awaited != A_LINE) {
+                takeNumber();
+            } else if (tape.sort == Tape.END) {
+                awaited = NOTHING;
+            } else {
+                takeWord();
+            }
+        }
+
+        private void takeWord() {
             int word = wordOfLine();
             if (word == HEIR_WORD) {
-                takeHeir();
+                begin(AN_UP, draft.heirs >= MOST_HEIRS, SIXTH);
             } else if (word == HERD_WORD) {
-                takeHerd();
+                begin(A_HERD, hasHerd, TWICE);
+                hasHerd = true;
             } else if (isKind(word)) {
-                takeJudge(word);
+                begin(A_SEMICOLON, hasJudge, TWICE);
+                hasJudge = true;
+                draft.kind = word;
             } else {
                 refuse(MISPLACED);
+            }
+        }
+
+        private void begin(int next, boolean isRefused, int by) {
+            if (isRefused) {
+                refuse(by);
+            } else {
+                awaited = next;
             }
         }
 
@@ -1083,77 +1107,43 @@ public final class CamelParts {
             return tape.isName("odd") ? BY_ODD : -1;
         }
 
-        private void takeHeir() {
-            if (draft.heirs >= MOST_HEIRS) {
-                refuse(SIXTH);
-                return;
-            }
-            advance();
-            int up = takeNumber(1, MOST_UP);
-            int down = takeNumber(1, MOST_DOWN);
-            takeSemicolon();
-            draft.add(up, down);
-        }
-
-        private void takeHerd() {
-            if (hasHerd) {
-                refuse(TWICE);
-                return;
-            }
-            hasHerd = true;
-            advance();
-            draft.camels = takeNumber(0, MOST_CAMELS);
-            takeSemicolon();
-        }
-
-        private void takeJudge(int kind) {
-            if (hasJudge) {
-                refuse(TWICE);
-                return;
-            }
-            hasJudge = true;
-            advance();
-            draft.kind = kind;
-            takeSemicolon();
-        }
-
-        private int takeNumber(int low, int high) {
-            if (flaw != 0) {
-                return 0;
-            }
-            int number = tape.value;
+        private void takeNumber() {
             if (tape.sort != Tape.NUMBER) {
                 refuse(MISPLACED);
-            } else if (!within(number, low, high)) {
+            } else if (!isInBounds(tape.value)) {
                 refuse(OUT_OF_BOUNDS);
+            } else if (awaited == AN_UP) {
+                up = tape.value;
+                awaited = A_DOWN;
+            } else if (awaited == A_DOWN) {
+                draft.add(up, tape.value);
+                awaited = A_SEMICOLON;
             } else {
-                advance();
+                draft.camels = tape.value;
+                awaited = A_SEMICOLON;
             }
-            return number;
+        }
+
+        private boolean isInBounds(int number) {
+            if (awaited == A_HERD) {
+                return isHerd(number);
+            }
+            return within(number, 1, awaited == AN_UP ? MOST_UP : MOST_DOWN);
         }
 
         private void takeSemicolon() {
-            if (flaw != 0) {
-                return;
-            }
             if (tape.sort != Tape.SEMICOLON) {
                 refuse(MISPLACED);
                 return;
             }
             lines++;
-            advance();
-        }
-
-        private void advance() {
-            tape.advance();
-            if (tape.sort == Tape.WRONG) {
-                refuse(NO_TOKEN);
-            }
+            awaited = A_LINE;
         }
 
         private void refuse(int by) {
             flaw = by;
             place = tape.start;
+            awaited = NOTHING;
         }
     }
 
@@ -1251,7 +1241,7 @@ public final class CamelParts {
             heirs = Math.min(ofHeirs, WILL_HEIRS);
             sought = soughtWill;
             findDowns();
-            choose(0, 0, herdCamels);
+            choose(this, 0, 0, herdCamels);
         }
 
         private void findDowns() {
@@ -1265,19 +1255,19 @@ public final class CamelParts {
         }
 
         // Downs grow, so shares fall: what one share for each of the rest can't reach, no later can.
-        private void choose(int depth, int from, int left) {
-            if (depth >= heirs) {
-                found += left == 0 ? 1 : 0;
+        private static void choose(WillSearch in, int depth, int from, int left) {
+            if (depth >= in.heirs) {
+                in.found += left == 0 ? 1 : 0;
                 return;
             }
-            for (int d = from; d < downsFound && !isFound(); d++) {
-                int share = (int) quotient(camels, downs[d]);
-                if (share * (heirs - depth) < left) {
+            for (int d = from; d < in.downsFound && !in.isFound(); d++) {
+                int share = (int) quotient(in.camels, in.downs[d]);
+                if (share * (in.heirs - depth) < left) {
                     return;
                 }
                 if (share <= left) {
-                    row[depth] = downs[d];
-                    choose(depth + 1, d, left - share);
+                    in.row[depth] = in.downs[d];
+                    choose(in, depth + 1, d, left - share);
                 }
             }
         }

@@ -88,6 +88,9 @@ public final class JudgesTest {
         // Of 1: 0 0 1; of 2: 1 1 0.
         Due.due("loses by told", z.loses(200, 0), 1);
         Due.due("loses by told: who", z.loses(200, 1), 2);
+        CamelParts first = Due.told("heir 2 14;heir 6 14;heir 6 14;rests;");
+        Due.due("loses: the first", first.loses(200, 1), 0);
+        Due.due("loses(0, 0)", first.loses(0, 0), NONE);
         Due.due("loses without heirs", new CamelParts().loses(200, 0), NONE);
     }
 
@@ -123,6 +126,9 @@ public final class JudgesTest {
         CamelParts y = Due.told("heir 1 1;");
         Due.due("one heir has all", y.unlike(0, 3), NONE);
         Due.due("without heirs", new CamelParts().unlike(0, 3), NONE);
+        // By row the second one's first comes when 7 by 200 is less than 2 by 57.
+        Due.due("the last herd", Due.told("heir 7 1;heir 2 57;").unlike(0, 2), 200);
+        Due.due("one beyond", Due.told("heir 7 1;heir 1 29;").unlike(0, 2), NONE);
         CamelParts z = Due.told("heir 9 99;");
         Due.due("9 by 99 has none of 1 by told", z.unlike(0, 2), 1);
         Due.due("one heir has all", z.unlike(1, 2), NONE);

@@ -114,6 +114,10 @@ public final class LendingTest {
                 Due.due("will(3, 3, " + k + ", " + i + ")", x.will(3, 3, k, i), rows[k][i]);
             }
         }
+        x.herd(6);
+        Due.due("will of one heir", x.will(1, 6, 0, 0), 2);
+        Due.due("will without lending", x.will(2, 0, 0, 1), 2);
+        x.herd(9);
         Due.due("will: not so many", x.will(3, 3, 4, 0), NONE);
         Due.due("will: not so many", x.will(3, 3, Integer.MAX_VALUE, 0), NONE);
         Due.due("will: no such a", x.will(3, 3, 0, 3), BAD);

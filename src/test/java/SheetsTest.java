@@ -75,6 +75,11 @@ public final class SheetsTest {
         Due.due("a cell that was laid", x.read(3, 1, 0, 1), 1);
         x.sheet(3, 1, 2);
         Due.due("cells are 0 anew", x.read(3, 1, 0, 1), -20);
+        x.lay(3, 0, 1);
+        Due.due("the second too", x.read(3, 1, 0, 1), -20);
+        x.sheet(3, 1, 2);
+        x.lay(3, 1, 1);
+        Due.due("the first too", x.read(3, 1, 0, 1), -20);
     }
 
     private static void laying() {

@@ -127,6 +127,8 @@ public final class TextTest {
     private static void faultsOfPlaces() {
         refused("heirs 1 2;", 0, 2);
         refused("hei 1 2;", 0, 2);
+        refused("xeir 1 2;", 0, 2);
+        refused("odo;", 0, 2);
         refused("  camel;", 2, 2);
         refused("12;", 0, 2);
         refused(";", 0, 2);
