@@ -906,10 +906,10 @@ public final class CamelParts {
             }
         }
 
-        // By row or odd row nobody has in the end fewer than his quota less 3: all heirs' parts by
-        // one and the same divisor, each off by 1 (row) or a half (odd) at most, come to the herd,
-        // so that the five together move that divisor's quota by 2.5 at most. The first ones need
-        // not be given one by one, then.
+        // In the end one divisor makes each part what its heir has, but for 0 to 1 above it (row) or
+        // a half either way (odd). Five of these come to the herd less 2.5 at least, so each of them
+        // is the quota less 2.5 at least, and what he has is the quota less 3 at least: so many
+        // need not be given one by one.
         private void giveByRow() {
             giveQuotasLess(3);
             for (int left = camels - given(); left > 0; left--) {
