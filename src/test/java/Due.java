@@ -2,15 +2,21 @@
 final class Due {
     private static int wrong = 0;
     private static int asked = 0;
+    private static String about = "";
 
     private Due() {
+    }
+
+    /** What the answers due from now on are about: told with each that is wrong. */
+    static void about(String words) {
+        about = words.isEmpty() ? "" : "[" + words + "] ";
     }
 
     static void due(String call, long got, long want) {
         asked++;
         if (got != want) {
             wrong++;
-            System.out.println(call + " answered " + got + ", due is " + want);
+            System.out.println(about + call + " answered " + got + ", due is " + want);
         }
     }
 
