@@ -100,7 +100,7 @@ final class RefusedEdges {
             add(told, x.back(k));
             askAll(x, told);
         }
-        while (x.rule(0) > 0) {
+        for (int n = 0; n < 5 && x.rule(0) > 0; n++) {
             x.dies(0);
         }
         for (int k = 0; k < 4; k++) {

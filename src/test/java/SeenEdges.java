@@ -87,8 +87,8 @@ final class SeenEdges {
             Due.due("forget(" + n + ")", x.forget(n), BAD);
         }
         Due.due("they stay", x.count(0), 2);
-        while (x.count(0) < 6) {
-            x.see(0, 1);
+        for (int n = 3; n <= 6; n++) {
+            Due.due("see", x.see(0, 1), n);
         }
         Due.due("forget(7) of 6", x.forget(7), BAD);
     }

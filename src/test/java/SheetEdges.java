@@ -10,6 +10,7 @@ final class SheetEdges {
         keeping();
         goingBack();
         goingBackToWhatWasSeen();
+        goingBackLeavesTheRest();
         goingBackToNone();
         sheetsAtFirst();
         faults();
@@ -18,6 +19,7 @@ final class SheetEdges {
         laying();
         layingWrong();
         reading();
+        readingNone();
         readingTorn();
         readingWrong();
         readingRefused();
@@ -100,6 +102,24 @@ final class SheetEdges {
             x.back(1);
             Due.due("so it is not again", x.judges(), 0);
         }
+    }
+
+    // An image is herd, heirs, judge and what was seen, and nothing besides.
+    private static void goingBackLeavesTheRest() {
+        CamelParts x = Due.told("heir 1 2;");
+        x.keep(0);
+        Due.fed(x, "heir;");
+        Due.due("a fault", x.text(), -14);
+        x.sheet(1, 2, 3);
+        x.read(1, 0, 0, 1);
+        Due.fed(x, "herd 7;");
+        Due.due("back(0)", x.back(0), 17);
+        Due.due("fault()", x.fault(), 2);
+        Due.due("torn()", x.torn(), 3);
+        Due.due("bytes", x.count(2), 7);
+        Due.due("the sheet's last cell", x.lay(1, 2, 0), 1);
+        Due.due("the tape is told", x.text(), 1);
+        Due.due("herd", x.rule(1), 7);
     }
 
     private static void isSmall(CamelParts x) {
@@ -293,6 +313,19 @@ final class SheetEdges {
         Due.due("behind the one there was", most.heir(1, 0), 1);
         Due.due("20 of a sheet that has two", withCells(1, 4).read(2, 1, 0, 20), 2);
         Due.due("none of nothing", new CamelParts().read(2, 0, 0, 0), 0);
+    }
+
+    // None are read, so no cell is asked for: the machine finds nothing, whatever the sheet is.
+    private static void readingNone() {
+        CamelParts x = withCells(0, 2, 0, 0);
+        int[][] reads = {{3, 0, 0}, {2, 1, 0}, {2, 2, 0}, {2, 0, 2}, {2, 0, -1}, {2, 0, MOST}, {2, 0, LEAST}, {2, 0, 0}};
+        for (int[] one : reads) {
+            x.read(3, 0, 0, 1);
+            Due.due("torn()", x.torn(), 1);
+            Due.due("read(" + one[0] + ", " + one[1] + ", " + one[2] + ", 0)", x.read(one[0], one[1], one[2], 0), 0);
+            Due.due("torn() of none", x.torn(), 0);
+        }
+        Due.due("nobody came", x.rule(0), 0);
     }
 
     private static void readingTorn() {

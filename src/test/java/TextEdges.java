@@ -29,6 +29,7 @@ final class TextEdges {
         sixthHeir();
         firstMet();
         textTaken();
+        lastOf512Calls();
     }
 
     private static void newObject() {
@@ -378,5 +379,21 @@ final class TextEdges {
         Due.due("keep(0)", x.keep(0), 0);
         Due.due("keep(1)", x.keep(1), 0);
         Due.due("sheets stay", x.count(3), 7);
+    }
+
+    // The document's head: an object is used for 512 calls, of which the last is as good as the first.
+    private static void lastOf512Calls() {
+        CamelParts fed = new CamelParts();
+        for (int call = 1; call <= 511; call++) {
+            Due.due("call " + call, fed.feed(' '), call <= 160 ? call : FULL);
+        }
+        Due.due("call 512", fed.text(), 0);
+        CamelParts told = Due.told("heir 1 2;");
+        for (int call = 11; call <= 510; call += 2) {
+            Due.due("call " + call, told.see(0, 8), 1);
+            Due.due("call " + (call + 1), told.forget(0), 1);
+        }
+        Due.due("call 511", told.herd(999), 17);
+        Due.due("call 512", told.heir(0, 2), 499);
     }
 }
